@@ -53,10 +53,22 @@ public final class FaceTest {
         }
         for (Method m : face.getDeclaredMethods()) {
             note(seen, m, m.getName() + types(m.getParameterTypes()), m.getReturnType());
+            if (Modifier.isPrivate(m.getModifiers()) && hasPublic(face, m.getName())) {
+                fault("the private method " + m.getName() + " bears the name of a public one");
+            }
         }
         if (!seen.equals(FACE)) {
             fault("the face is " + seen + ", due is " + new TreeSet<>(FACE));
         }
+    }
+
+    private static boolean hasPublic(Class<?> face, String name) {
+        for (Method m : face.getDeclaredMethods()) {
+            if (Modifier.isPublic(m.getModifiers()) && m.getName().equals(name)) {
+                return true;
+            }
+        }
+        return false;
     }
 
     private static void note(Set<String> seen, Member member, String name, Class<?> type) {

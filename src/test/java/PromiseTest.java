@@ -365,6 +365,8 @@ public final class PromiseTest {
     private static void idle() {
         due("idle() of none", new ComparatorNet(3).idle(), 0);
         due("idle() of one", net(3, 0, 1).idle(), 0);
+        due("idle() of 0 1 on 2 wires, needed for one order", net(2, 0, 1).idle(), 0);
+        due("idle() of 1 0 on 2 wires, needed for one order", net(2, 1, 0).idle(), 0);
         due("idle() of a twin, each alone", net(3, 0, 1, 0, 1).idle(), 2);
         due("idle() of there and back", net(2, 0, 1, 1, 0).idle(), 1);
         due("idle() of sorter4", sorter4().idle(), 0);
