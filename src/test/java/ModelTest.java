@@ -6,12 +6,11 @@ import java.util.List;
  * Long fixed runs of calls, each answer compared with a plain model of the document that shares
  * nothing with the class: lists of pairs, orders made by recursion, rounds by longest chains.
  */
-public final class ModelTest {
+public final class ModelTest extends Checks {
     private static final int RUNS_PER_WIRE_COUNT = 12;
     private static final int CALLS = 512;
-    private static final int[] ODD = {Integer.MIN_VALUE, Integer.MAX_VALUE, -1, 24, 7, 8};
+    private static final int[] ODD = {MIN, MAX, -1, 24, 7, 8};
 
-    private static int wrong = 0;
     // A fixed row of numbers, so that each run of the test makes the same calls.
     private static long seed = 20261115L;
 
@@ -32,7 +31,7 @@ public final class ModelTest {
                 compareRun(wires, run);
             }
         }
-        System.exit(wrong == 0 ? 0 : 1);
+        end();
     }
 
     private static int pick(int bound) {
@@ -46,8 +45,8 @@ public final class ModelTest {
 
     private static int pickNumber() {
         switch (pick(6)) {
-            case 0: return Integer.MIN_VALUE + pick(2);
-            case 1: return Integer.MAX_VALUE - pick(2);
+            case 0: return MIN + pick(2);
+            case 1: return MAX - pick(2);
             default: return pick(9) - 4;
         }
     }
@@ -93,13 +92,6 @@ public final class ModelTest {
         }
     }
 
-    private static void due(String call, int got, int want) {
-        if (got != want) {
-            wrong++;
-            System.out.println(call + " answered " + got + ", due is " + want);
-        }
-    }
-
     private void makeOrders(int[] order, int place, boolean[] used) {
         if (place == n) {
             orders.add(order.clone());
@@ -137,10 +129,10 @@ public final class ModelTest {
 
     private int add(int i, int j) {
         if (!wire(i) || !wire(j) || i == j) {
-            return -1;
+            return BAD_ARG;
         }
         if (net.size() == 24) {
-            return -2;
+            return FULL;
         }
         net.add(new int[] {i, j});
         return net.size();
@@ -148,7 +140,7 @@ public final class ModelTest {
 
     private int drop(int k) {
         if (k < 0 || k >= net.size()) {
-            return -4;
+            return NONE;
         }
         net.remove(k);
         return net.size();
@@ -156,7 +148,7 @@ public final class ModelTest {
 
     private int swap(int k) {
         if (k < 0 || k + 1L >= net.size()) {
-            return -4;
+            return NONE;
         }
         net.add(k, net.remove(k + 1));
         return 0;
@@ -169,7 +161,7 @@ public final class ModelTest {
 
     private int input(int w, int v) {
         if (!wire(w)) {
-            return -1;
+            return BAD_ARG;
         }
         input[w] = v;
         return 0;
@@ -194,21 +186,21 @@ public final class ModelTest {
 
     private int ranks(int w, int r) {
         if (!wire(w) || r < 1 || r > n) {
-            return -1;
+            return BAD_ARG;
         }
         return (int) orders.stream().filter(o -> outputs(net, o)[w] == r).count();
     }
 
     private int works(int k) {
         if (k < 0 || k >= net.size()) {
-            return -4;
+            return NONE;
         }
         return (int) orders.stream().filter(o -> exchangesAt(k, o)).count();
     }
 
     private int below(int v, int w) {
         if (!wire(v) || !wire(w)) {
-            return -1;
+            return BAD_ARG;
         }
         return (int) orders.stream().filter(o -> {
             int[] row = outputs(net, o);

@@ -1,13 +1,6 @@
 /** One method for each promise of the document: ordinary inputs, named edges and wrong inputs. */
-public final class PromiseTest {
-    private static final int BAD_ARG = -1;
-    private static final int FULL = -2;
-    private static final int NONE = -4;
-    private static final int[] NOT_WIRES_OF_4 = {-1, 4, 7, 24, Integer.MIN_VALUE, Integer.MAX_VALUE};
-    private static final int MIN = Integer.MIN_VALUE;
-    private static final int MAX = Integer.MAX_VALUE;
-
-    private static int wrong = 0;
+public final class PromiseTest extends Checks {
+    private static final int[] NOT_WIRES_OF_4 = {-1, 4, 7, 24, MIN, MAX};
 
     public static void main(String[] args) {
         constants();
@@ -29,56 +22,11 @@ public final class PromiseTest {
         rounds();
         questionsChangeNothing();
         objectsAreApart();
-        System.exit(wrong == 0 ? 0 : 1);
-    }
-
-    private static void due(String call, long got, long want) {
-        if (got != want) {
-            wrong++;
-            System.out.println(call + " answered " + got + ", due is " + want);
-        }
-    }
-
-    private static ComparatorNet net(int wires, int... pairs) {
-        ComparatorNet x = new ComparatorNet(wires);
-        for (int p = 0; p < pairs.length; p += 2) {
-            due("building add", x.add(pairs[p], pairs[p + 1]), p / 2 + 1);
-        }
-        return x;
+        end();
     }
 
     private static ComparatorNet sorter4() {
         return net(4, 0, 1, 2, 3, 0, 2, 1, 3, 1, 2);
-    }
-
-    private static ComparatorNet bubble(int wires) {
-        ComparatorNet x = new ComparatorNet(wires);
-        for (int last = wires - 1; last > 0; last--) {
-            for (int w = 0; w < last; w++) {
-                x.add(w, w + 1);
-            }
-        }
-        return x;
-    }
-
-    private static ComparatorNet full(int wires) {
-        ComparatorNet x = new ComparatorNet(wires);
-        for (int c = 0; c < 24; c++) {
-            due("add up to 24", x.add(0, 1), c + 1);
-        }
-        return x;
-    }
-
-    private static void inputs(ComparatorNet x, int... values) {
-        for (int w = 0; w < values.length; w++) {
-            due("input(" + w + ")", x.input(w, values[w]), 0);
-        }
-    }
-
-    private static void outputs(String what, ComparatorNet x, int... values) {
-        for (int w = 0; w < values.length; w++) {
-            due(what + ": output(" + w + ")", x.output(w), values[w]);
-        }
     }
 
     private static void constants() {
@@ -298,11 +246,10 @@ public final class PromiseTest {
     }
 
     private static void sorted() {
-        int[] factorials = {2, 6, 24, 120, 720, 5040};
         for (int n = 2; n <= 7; n++) {
             due("sorted() of none on " + n, new ComparatorNet(n).sorted(), 1);
             due("sorted() of 0 1 on " + n, net(n, 0, 1).sorted(), 2);
-            due("sorted() of bubble " + n, bubble(n).sorted(), factorials[n - 2]);
+            due("sorted() of bubble " + n, bubble(n).sorted(), FACTORIAL[n]);
             due("sorted() of 1 0 on " + n, net(n, 1, 0).sorted(), 0);
         }
         due("sorted() of 0 1, 1 2", net(3, 0, 1, 1, 2).sorted(), 4);
