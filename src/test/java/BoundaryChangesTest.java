@@ -59,6 +59,8 @@ public final class BoundaryChangesTest extends Checks {
         for (int asked : new int[] {MIN, MIN + 1, MIN + 5, -65536, -256, -7, -5, -2, -1, 0, 1}) {
             hasWires(asked, 2);
         }
+        hasWires(2, 2);
+        hasWires(3, 3);
     }
 
     // Promise 1: "above 7 becomes 7"
@@ -66,6 +68,8 @@ public final class BoundaryChangesTest extends Checks {
         for (int asked : new int[] {8, 9, 15, 16, 24, 100, 256, 259, 65536, 65539, MAX - 1, MAX}) {
             hasWires(asked, 7);
         }
+        hasWires(7, 7);
+        hasWires(6, 6);
     }
 
     // Promise 1: "n is wires, clamped into 2 to 7"
@@ -201,6 +205,9 @@ public final class BoundaryChangesTest extends Checks {
             }
             for (int i : inside(0, n - 1)) {
                 refused("add(" + i + ", " + i + ")", n, 24, x -> x.add(i, i), BAD_ARG);
+                refused("add(" + i + ", " + i + ")", n, 23, x -> x.add(i, i), BAD_ARG);
+                refused("add(" + i + ", other)", n, 24, x -> x.add(i, i == 0 ? 1 : 0), FULL);
+                due("add(" + i + ", other) at 23", mixed(n, 23).add(i, i == 0 ? 1 : 0), 24);
             }
         }
     }
@@ -241,6 +248,9 @@ public final class BoundaryChangesTest extends Checks {
             for (int size : SIZES) {
                 for (int k : outside(0, size - 1)) {
                     refused("drop(" + k + ")", n, size, x -> x.drop(k), NONE);
+                }
+                for (int k : inside(0, size - 1)) {
+                    due("drop(" + k + ") of " + size, mixed(n, size).drop(k), size - 1);
                 }
             }
         }
@@ -284,6 +294,9 @@ public final class BoundaryChangesTest extends Checks {
             for (int size : SIZES) {
                 for (int k : outside(0, size - 2)) {
                     refused("swap(" + k + ")", n, size, x -> x.swap(k), NONE);
+                }
+                for (int k : inside(0, size - 2)) {
+                    due("swap(" + k + ") of " + size, mixed(n, size).swap(k), 0);
                 }
             }
         }
@@ -413,6 +426,9 @@ public final class BoundaryChangesTest extends Checks {
             for (int w : outside(0, n - 1)) {
                 refused("input(" + w + ", 77)", n, 3, x -> x.input(w, 77), BAD_ARG);
                 refused("input(" + w + ", 0)", n, 0, x -> x.input(w, 0), BAD_ARG);
+            }
+            for (int w : inside(0, n - 1)) {
+                due("input(" + w + ", 77) of " + n, mixed(n, 3).input(w, 77), 0);
             }
         }
     }

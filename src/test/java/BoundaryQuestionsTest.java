@@ -84,6 +84,9 @@ public final class BoundaryQuestionsTest extends Checks {
                 refused("output(" + w + ")", n, 0, x -> x.output(w), 0);
                 refused("output(" + w + ")", n, 24, x -> x.output(w), 0);
             }
+            for (int w : inside(0, n - 1)) {
+                due("output(" + w + ") of " + n, mixed(n, 0).output(w), mixedInputs(n)[w]);
+            }
         }
     }
 
@@ -245,6 +248,9 @@ public final class BoundaryQuestionsTest extends Checks {
                 refused("ranks(" + w + ", 1)", n, 3, x -> x.ranks(w, 1), BAD_ARG);
                 refused("ranks(" + w + ", n)", n, 3, x -> x.ranks(w, most), BAD_ARG);
             }
+            for (int w : inside(0, n - 1)) {
+                due("ranks(" + w + ", 1) of " + n, mixed(n, 0).ranks(w, 1), FACTORIAL[n - 1]);
+            }
         }
     }
 
@@ -255,6 +261,9 @@ public final class BoundaryQuestionsTest extends Checks {
                 int last = n - 1;
                 refused("ranks(0, " + r + ")", n, 3, x -> x.ranks(0, r), BAD_ARG);
                 refused("ranks(n - 1, " + r + ")", n, 3, x -> x.ranks(last, r), BAD_ARG);
+            }
+            for (int r : inside(1, n)) {
+                due("ranks(0, " + r + ") of " + n, mixed(n, 0).ranks(0, r), FACTORIAL[n - 1]);
             }
         }
     }
@@ -304,6 +313,10 @@ public final class BoundaryQuestionsTest extends Checks {
                 for (int k : outside(0, size - 1)) {
                     refused("works(" + k + ")", n, size, x -> x.works(k), NONE);
                 }
+                for (int k : inside(0, size - 1)) {
+                    int works = mixed(n, size).works(k);
+                    due("works(" + k + ") of " + size + " is a number of orders", works >= 0 ? 1 : 0, 1);
+                }
             }
         }
     }
@@ -343,6 +356,9 @@ public final class BoundaryQuestionsTest extends Checks {
                 refused("below(" + v + ", 0)", n, 3, x -> x.below(v, 0), BAD_ARG);
                 refused("below(" + v + ", n - 1)", n, 3, x -> x.below(v, last), BAD_ARG);
             }
+            for (int v : inside(0, n - 1)) {
+                due("below(" + v + ", other) of " + n, mixed(n, 0).below(v, v == 0 ? 1 : 0), FACTORIAL[n] / 2);
+            }
         }
     }
 
@@ -353,6 +369,9 @@ public final class BoundaryQuestionsTest extends Checks {
                 int last = n - 1;
                 refused("below(0, " + w + ")", n, 3, x -> x.below(0, w), BAD_ARG);
                 refused("below(n - 1, " + w + ")", n, 3, x -> x.below(last, w), BAD_ARG);
+            }
+            for (int w : inside(0, n - 1)) {
+                due("below(other, " + w + ") of " + n, mixed(n, 0).below(w == 0 ? 1 : 0, w), FACTORIAL[n] / 2);
             }
         }
     }
