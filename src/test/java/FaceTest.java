@@ -1,84 +1,72 @@
-import java.lang.reflect.Constructor;
+import java.io.IOException;
+import java.lang.reflect.Executable;
 import java.lang.reflect.Field;
-import java.lang.reflect.Member;
 import java.lang.reflect.Method;
 import java.lang.reflect.Modifier;
+import java.nio.file.Files;
+import java.nio.file.Path;
+import java.util.Arrays;
+import java.util.List;
 import java.util.Set;
 import java.util.TreeSet;
+import java.util.stream.Collectors;
 
-/** The class shows the document's public face and no more. */
-public final class FaceTest {
-    private static final Set<String> FACE = Set.of(
-            "BAD_ARG", "FULL", "NONE", "ComparatorNet(int)",
-            "add(int,int)", "drop(int)", "swap(int)", "turn()", "size()", "input(int,int)", "output(int)",
-            "exchanges()", "sorts()", "sorted()", "ranks(int,int)", "works(int)", "below(int,int)", "idle()",
-            "rounds()");
+/** The class shows the public face that stands in the document, and no more. */
+public final class FaceTest extends Checks {
+    private static final Path DOCUMENT = Path.of("../shared/DOC.md");
+    private static final Class<?> CLASS = ComparatorNet.class;
 
-    private static int wrong = 0;
-
-    public static void main(String[] args) {
-        checkMembers();
-        System.exit(wrong == 0 ? 0 : 1);
+    public static void main(String[] args) throws IOException, IllegalAccessException {
+        Set<String> promised = promised(Files.readString(DOCUMENT));
+        // The class line, 3 constants, the constructor and 15 methods.
+        due("lines of the face that were read from the document", promised.size(), 20);
+        same("the public face", found(), promised);
+        same("parents of the class", List.of(CLASS.getSuperclass(), CLASS.getInterfaces().length),
+                List.of(Object.class, 0));
+        noPrivateNamesake();
+        end();
     }
 
-    private static void fault(String what) {
-        wrong++;
-        System.out.println(what);
+    /** The lines of the Java in the document, without the names of parameters. */
+    private static Set<String> promised(String document) {
+        String java = document.split("```java\n")[1].split("```")[0];
+        return java.lines().map(line -> line.trim().replaceAll(" ?[;{}]$", "").replaceAll("int \\w+([,)])", "int$1"))
+                .filter(line -> !line.isEmpty()).collect(Collectors.toCollection(TreeSet::new));
     }
 
-    private static void checkMembers() {
-        Class<?> face = ComparatorNet.class;
-        if (!Modifier.isFinal(face.getModifiers()) || !Modifier.isPublic(face.getModifiers())) {
-            fault("the class is not public and final");
-        }
-        Set<String> seen = new TreeSet<>();
-        for (Field f : face.getDeclaredFields()) {
-            note(seen, f, f.getName(), f.getType());
-            if (Modifier.isStatic(f.getModifiers()) && !Modifier.isFinal(f.getModifiers())) {
-                fault("the static field " + f.getName() + " is not a constant");
+    /** All that is not private, so that a member without a word in front is seen, too. */
+    private static Set<String> found() throws IllegalAccessException {
+        Set<String> face = new TreeSet<>();
+        face.add(Modifier.toString(CLASS.getModifiers()) + " class " + CLASS.getName());
+        for (Field f : CLASS.getDeclaredFields()) {
+            if (!Modifier.isPrivate(f.getModifiers())) {
+                Object value = Modifier.isStatic(f.getModifiers()) ? f.get(null) : "none";
+                face.add(Modifier.toString(f.getModifiers()) + " " + f.getType() + " " + f.getName() + " = " + value);
             }
         }
-        for (Constructor<?> c : face.getDeclaredConstructors()) {
-            note(seen, c, "ComparatorNet" + types(c.getParameterTypes()), int.class);
+        for (Executable c : CLASS.getDeclaredConstructors()) {
+            addTo(face, c, "");
         }
-        for (Method m : face.getDeclaredMethods()) {
-            note(seen, m, m.getName() + types(m.getParameterTypes()), m.getReturnType());
-            if (Modifier.isPrivate(m.getModifiers()) && hasPublic(face, m.getName())) {
-                fault("the private method " + m.getName() + " bears the name of a public one");
-            }
+        for (Method m : CLASS.getDeclaredMethods()) {
+            addTo(face, m, m.getReturnType() + " ");
         }
-        if (!seen.equals(FACE)) {
-            fault("the face is " + seen + ", due is " + new TreeSet<>(FACE));
+        return face;
+    }
+
+    private static void addTo(Set<String> face, Executable member, String type) {
+        if (!Modifier.isPrivate(member.getModifiers())) {
+            String parameters = Arrays.stream(member.getParameterTypes()).map(Class::getName)
+                    .collect(Collectors.joining(", ", "(", ")"));
+            face.add((Modifier.toString(member.getModifiers()) + " " + type).trim() + " " + member.getName()
+                    + parameters);
         }
     }
 
-    private static boolean hasPublic(Class<?> face, String name) {
-        for (Method m : face.getDeclaredMethods()) {
-            if (Modifier.isPublic(m.getModifiers()) && m.getName().equals(name)) {
-                return true;
-            }
+    private static void noPrivateNamesake() {
+        Set<String> shown = Arrays.stream(CLASS.getMethods()).map(Method::getName).collect(Collectors.toSet());
+        for (Method m : CLASS.getDeclaredMethods()) {
+            same("a private method with a public name, " + m.getName(),
+                    Modifier.isPrivate(m.getModifiers()) && shown.contains(m.getName()), false);
         }
-        return false;
-    }
-
-    private static void note(Set<String> seen, Member member, String name, Class<?> type) {
-        if (Modifier.isPrivate(member.getModifiers())) {
-            return;
-        }
-        seen.add(name);
-        if (!Modifier.isPublic(member.getModifiers())) {
-            fault(name + " is neither public nor private");
-        }
-        if (type != int.class) {
-            fault(name + " is not of type int");
-        }
-    }
-
-    private static String types(Class<?>[] types) {
-        StringBuilder text = new StringBuilder("(");
-        for (Class<?> type : types) {
-            text.append(text.length() > 1 ? "," : "").append(type.getName());
-        }
-        return text.append(")").toString();
     }
 }
